@@ -1,0 +1,61 @@
+/** Counts and tells the answers that are not the ones that are due. */
+final class Due {
+    static final int MIN = Integer.MIN_VALUE;
+    static final int MAX = Integer.MAX_VALUE;
+
+    private static int wrong = 0;
+
+    private Due() {
+    }
+
+    static void is(String call, Object answer, Object due) {
+        if (!due.equals(answer)) {
+            wrong++;
+            System.out.println(call + " answered " + answer + ", due is " + due);
+        }
+    }
+
+    /** The program's steps in pairs, operation and argument, each of which is to be taken. */
+    static void steps(MonitorDesk desk, int... pairs) {
+        for (int i = 0; i < pairs.length; i += 2) {
+            int before = desk.state(0);
+            is("step(" + pairs[i] + ", " + pairs[i + 1] + ")", desk.step(pairs[i], pairs[i + 1]), before + 1);
+        }
+    }
+
+    /** The results from step 0 on; those behind the last one named are to be NOT_DONE. */
+    static void results(String what, MonitorDesk desk, int... due) {
+        for (int i = 0; i < 24; i++) {
+            is(what + ": result(" + i + ")", desk.result(i), i < due.length ? due[i] : -9);
+        }
+    }
+
+    /** A new desk whose program is run once: the count, the failure and the results that are due. */
+    static MonitorDesk runs(String what, MonitorDesk desk, int[] pairs, int done, int failure, int... due) {
+        steps(desk, pairs);
+        is(what + ": run()", desk.run(), done);
+        is(what + ": failure()", desk.failure(), failure);
+        results(what, desk, due);
+        return desk;
+    }
+
+    /** A desk with its own lock in each handle that is named, the others null. */
+    static MonitorDesk withLocks(int... handles) {
+        MonitorDesk desk = new MonitorDesk();
+        for (int handle : handles) {
+            is("hold(" + handle + ", -2)", desk.hold(handle, -2), 0);
+        }
+        return desk;
+    }
+
+    static int[] program(int... pairs) {
+        return pairs;
+    }
+
+    static void end() {
+        System.out.println(wrong == 0 ? "all answers are as due" : wrong + " answers are not as due");
+        if (wrong != 0) {
+            System.exit(1);
+        }
+    }
+}
