@@ -42,6 +42,7 @@ public final class OperationsTest {
     private static void waiting() {
         Due.runs("a held lock", Due.withLocks(1), Due.program(1, 1, 6, 1, 6, 6, 6, Due.MAX - 1, 0, 0),
             5, 0, 1, -2, -2, -2, 0);
+        Due.runs("0 is no time below 0", Due.withLocks(0), Due.program(1, 0, 6, 0, 6, 5, 0, 0), 4, 0, 1, -2, -2, 0);
         Due.runs("not held", Due.withLocks(1), Due.program(6, 1), 1, 2, -998);
         Due.runs("null", Due.withLocks(1), Due.program(6, 0), 1, 1, -999);
         Due.runs("MAX is handle 2", Due.withLocks(0, 1, 3, 4), Due.program(6, Due.MAX), 1, 1, -999);
