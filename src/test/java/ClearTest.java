@@ -14,7 +14,24 @@ public final class ClearTest {
         Due.is("handle 2", desk.state(7), 2);
         Due.is("steps", desk.state(0), 0);
         openBlocksGoToo(desk);
+        eachCountOfSteps();
         Due.end();
+    }
+
+    private static void eachCountOfSteps() {
+        for (int steps = 0; steps <= 8; steps++) {
+            MonitorDesk desk = new MonitorDesk();
+            Due.steps(desk, Due.times(steps, 2, 0));
+            Due.is("clear()", desk.clear(), steps);
+            Due.is("steps", desk.state(0), 0);
+            Due.is("open blocks", desk.state(1), 0);
+        }
+        for (int steps = 9; steps <= 24; steps++) {
+            MonitorDesk desk = new MonitorDesk();
+            Due.steps(desk, Due.times(steps, 3, 0));
+            Due.is("clear()", desk.clear(), steps);
+            Due.is("clear() again", desk.clear(), 0);
+        }
     }
 
     private static void openBlocksGoToo(MonitorDesk desk) {

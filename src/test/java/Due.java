@@ -1,3 +1,5 @@
+import java.util.Arrays;
+
 /** Counts and tells the answers that are not the ones that are due. */
 final class Due {
     static final int MIN = Integer.MIN_VALUE;
@@ -50,6 +52,49 @@ final class Due {
 
     static int[] program(int... pairs) {
         return pairs;
+    }
+
+    /** Programs joined, one behind the other. */
+    static int[] joined(int[]... programs) {
+        int[] all = {};
+        for (int[] program : programs) {
+            int[] longer = Arrays.copyOf(all, all.length + program.length);
+            System.arraycopy(program, 0, longer, all.length, program.length);
+            all = longer;
+        }
+        return all;
+    }
+
+    /** The same step a number of times. */
+    static int[] times(int count, int operation, int argument) {
+        int[] program = new int[2 * count];
+        for (int i = 0; i < program.length; i += 2) {
+            program[i] = operation;
+            program[i + 1] = argument;
+        }
+        return program;
+    }
+
+    /** All that can be read of a desk, in 35 calls: state 0 .. 9, the failure, result 0 .. 23. */
+    static int[] reads(MonitorDesk desk) {
+        int[] all = new int[35];
+        for (int what = 0; what < 10; what++) {
+            all[what] = desk.state(what);
+        }
+        all[10] = desk.failure();
+        for (int step = 0; step < 24; step++) {
+            all[11 + step] = desk.result(step);
+        }
+        return all;
+    }
+
+    /** What was read once is read again, but for the places from .. to (and none, if to is below from). */
+    static void same(String what, int[] before, int[] after, int from, int to) {
+        for (int i = 0; i < before.length; i++) {
+            if (i < from || i > to) {
+                is(what + ": reading " + i, after[i], before[i]);
+            }
+        }
     }
 
     static void end() {

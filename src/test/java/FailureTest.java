@@ -17,7 +17,32 @@ public final class FailureTest {
         desk.clear();
         Due.is("run() of none", desk.run(), 0);
         Due.is("failure() of a run of none", desk.failure(), 0);
+        zeroToNinetyNine();
+        refusedRuns();
         Due.end();
+    }
+
+    private static void zeroToNinetyNine() {
+        MonitorDesk desk = new MonitorDesk();
+        for (int own = 0; own < 100; own++) {
+            Due.is("step(11, " + own + ")", desk.step(11, own), 1);
+            Due.is("run()", desk.run(), 1);
+            Due.is("failure()", desk.failure(), 100 + own);
+            Due.is("clear()", desk.clear(), 1);
+        }
+        Due.is("run()", desk.run(), 0);
+        Due.is("failure()", desk.failure(), 0);
+    }
+
+    /** A run that is refused is no run: the latest one's FAILURE, or that it had none, is told on. */
+    private static void refusedRuns() {
+        MonitorDesk desk = new MonitorDesk();
+        Due.steps(desk, 11, 3, 2, 0);
+        Due.is("run()", desk.run(), -1);
+        Due.is("failure() of no run", desk.failure(), 0);
+        Due.steps(desk, 0, 0);
+        Due.is("run()", desk.run(), 1);
+        Due.is("failure()", desk.failure(), 103);
     }
 
     private static void eachCode() {

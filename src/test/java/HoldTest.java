@@ -1,9 +1,12 @@
+import java.util.Arrays;
+
 /** Promise 2. */
 public final class HoldTest {
     public static void main(String[] args) {
         newNullAndShared();
         lastHolderGoes();
         refusals();
+        eachHandleFromEach();
         handlesMayChangeBetweenRuns();
         Due.end();
     }
@@ -44,6 +47,35 @@ public final class HoldTest {
             Due.is("hold(" + call[0] + ", " + call[1] + ")", desk.hold(call[0], call[1]), -1);
             handles("refused", desk, 0, 1, 2, 3, 4);
         }
+    }
+
+    /** "handle 0 .. 4; from -2 .. 4", and the numbers just outside; handles 0 and 2 share a lock, 3 is null. */
+    private static void eachHandleFromEach() {
+        int[] shared = {0, 1, 0, -2, 4};
+        for (int handle = -2; handle <= 6; handle++) {
+            for (int from = -4; from <= 6; from++) {
+                MonitorDesk desk = Due.withLocks(0, 1, 4);
+                desk.hold(2, 0);
+                boolean fits = handle >= 0 && handle <= 4 && from >= -2 && from <= 4;
+                String call = "hold(" + handle + ", " + from + ")";
+                Due.is(call, desk.hold(handle, from), fits ? 0 : -1);
+                int[] due = shared.clone();
+                if (fits) {
+                    due = leastHandles(handle, from);
+                }
+                handles(call, desk, due);
+            }
+        }
+    }
+
+    private static int[] leastHandles(int handle, int from) {
+        String[] locks = {"a", "b", "a", null, "c"};
+        locks[handle] = from == -2 ? "new" : from == -1 ? null : locks[from];
+        int[] least = new int[5];
+        for (int i = 0; i < 5; i++) {
+            least[i] = locks[i] == null ? -2 : Arrays.asList(locks).indexOf(locks[i]);
+        }
+        return least;
     }
 
     private static void handlesMayChangeBetweenRuns() {

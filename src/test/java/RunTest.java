@@ -2,6 +2,10 @@
 public final class RunTest {
     public static void main(String[] args) {
         notWhole();
+        oneToEightOpen();
+        whatCounts();
+        theEmptyProgram();
+        argumentsThatMeanNothing();
         caughtByTheInnermost();
         caughtOnlyWithin();
         allIsGivenBack();
@@ -28,6 +32,59 @@ public final class RunTest {
         desk.clear();
         Due.steps(desk, 2, 0);
         Due.is("run() with an open TRY", desk.run(), -1);
+    }
+
+    /** "The PROGRAM is not WHOLE: REFUSED", until the last block is closed. */
+    private static void oneToEightOpen() {
+        for (int open = 1; open <= 8; open++) {
+            MonitorDesk desk = Due.withLocks(0);
+            Due.steps(desk, Due.joined(Due.program(15, 1), Due.times(open, 1, 0)));
+            for (int left = open; left > 0; left--) {
+                Due.is("run() with " + left + " open", desk.run(), -1);
+                Due.results("refused", desk);
+                Due.is("TOTAL", desk.state(2), 0);
+                Due.steps(desk, 0, 0);
+            }
+            Due.is("run() with none open", desk.run(), 1 + 2 * open);
+            Due.is("TOTAL", desk.state(2), 1);
+        }
+    }
+
+    /** "each that gave a result or threw counts once, each END of a block that was not left by a THROWING too". */
+    private static void whatCounts() {
+        Due.runs("results alone", Due.withLocks(0), Due.program(1, 0, 3, 0, 0, 0), 3, 0, 1, 0, 0);
+        Due.runs("a TRY that caught counts once", new MonitorDesk(), Due.program(2, 0, 11, 0, 0, 0), 2, 0, 100, -900);
+        Due.runs("the END of a TRY that caught nothing", new MonitorDesk(), Due.program(2, 0, 0, 0), 2, 0, 0, 0);
+        Due.runs("the END of an ENTER that was left", Due.withLocks(0),
+            Due.program(2, 0, 1, 0, 11, 0, 0, 0, 0, 0, 15, 1), 4, 0, 100, 1, -900, -9, -9, 1);
+        Due.runs("the END of the outer TRY", new MonitorDesk(),
+            Due.program(2, 0, 2, 0, 11, 0, 0, 0, 0, 0, 15, 1), 5, 0, 0, 100, -900, -9, 0, 1);
+        Due.runs("an ENTER of null", new MonitorDesk(), Due.program(1, 0, 15, 1, 0, 0, 15, 1), 1, 1, -999);
+        Due.runs("the one that threw last", new MonitorDesk(), Due.program(15, 1, 11, 0, 15, 1), 2, 100, 1, -900);
+        Due.runs("twenty-four", new MonitorDesk(), Due.times(24, 7, 0), 24, 0, new int[24]);
+    }
+
+    private static void theEmptyProgram() {
+        MonitorDesk desk = new MonitorDesk();
+        Due.is("run() of a new object", desk.run(), 0);
+        Due.results("a new object", desk);
+        Due.runs("one that fails", desk, Due.program(15, 3, 7, 0, 11, 6), 3, 106, 3, 0, -894);
+        desk.clear();
+        Due.is("run() behind a clear", desk.run(), 0);
+        Due.results("all NOT_DONE", desk);
+        Due.is("failure()", desk.failure(), 0);
+        Due.is("TOTAL", desk.state(2), 3);
+        Due.is("the FLAG", desk.state(3), 1);
+    }
+
+    /** END closes the latest open block, whatever its argument; TRY and what asks for the FLAG have no use for one. */
+    private static void argumentsThatMeanNothing() {
+        for (int argument : new int[] {0, 1, 4, 5, -1, -5, Due.MIN, Due.MAX}) {
+            Due.runs("argument " + argument, Due.withLocks(0, 1),
+                Due.program(1, 0, 1, 1, 0, argument, 5, 0, 5, 1, 0, argument, 2, argument, 11, 3, 0, argument,
+                    2, argument, 0, argument, 7, argument, 9, argument, 8, argument, 9, argument, 8, argument),
+                15, 0, 1, 1, 0, 1, 0, 0, 103, -897, -9, 0, 0, 0, 1, 1, 0, 0);
+        }
     }
 
     private static void caughtByTheInnermost() {

@@ -3,6 +3,8 @@ public final class StepTest {
     public static void main(String[] args) {
         operationsInRange();
         mostSteps();
+        noTwentyFifthStep();
+        twelveBlocksButOneOpen();
         endNeedsAnOpenBlock();
         noNinthBlock();
         refusedStepsChangeNothing();
@@ -39,6 +41,37 @@ public final class StepTest {
         }
         Due.is("run()", desk.run(), 24);
         Due.is("result(23)", desk.result(23), 24);
+    }
+
+    /** "24 steps are there ...: REFUSED", whatever the operation, and with 0 .. 8 blocks open. */
+    private static void noTwentyFifthStep() {
+        for (int open = 0; open <= 8; open++) {
+            MonitorDesk desk = new MonitorDesk();
+            Due.steps(desk, Due.joined(Due.times(24 - open, 15, 1), Due.times(open, 2, 0)));
+            for (int operation = 0; operation <= 15; operation++) {
+                Due.is("step 25, operation " + operation, desk.step(operation, 0), -1);
+                Due.is("state(0)", desk.state(0), 24);
+                Due.is("state(1)", desk.state(1), open);
+            }
+            Due.is("run()", desk.run(), open == 0 ? 24 : -1);
+            Due.is("clear()", desk.clear(), 24);
+            Due.is("a step behind clear", desk.step(15, 0), 1);
+        }
+    }
+
+    /** Blocks that are closed don't count for "it would open a ninth". */
+    private static void twelveBlocksButOneOpen() {
+        MonitorDesk desk = new MonitorDesk();
+        for (int i = 0; i < 12; i++) {
+            Due.is("opener", desk.step(2, i), 2 * i + 1);
+            Due.is("open", desk.state(1), 1);
+            Due.is("END", desk.step(0, i), 2 * i + 2);
+            Due.is("closed", desk.state(1), 0);
+        }
+        Due.is("run()", desk.run(), 24);
+        desk.clear();
+        Due.steps(desk, Due.joined(Due.times(8, 2, 0), Due.times(8, 0, 0), Due.times(4, 2, 0), Due.times(4, 0, 0)));
+        Due.is("run()", desk.run(), 24);
     }
 
     private static void endNeedsAnOpenBlock() {
