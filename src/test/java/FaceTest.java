@@ -14,9 +14,14 @@ public final class FaceTest {
     public static void main(String[] args) throws Exception {
         Class<MonitorDesk> desk = MonitorDesk.class;
         Due.is("the class", Modifier.toString(desk.getModifiers()), "public final");
+        Due.is("its package", desk.getPackageName(), "");
+        Due.is("what it extends", desk.getSuperclass(), Object.class);
+        Due.is("what it implements", desk.getInterfaces().length, 0);
+        classesInside(desk);
         Set<String> face = new TreeSet<>();
         Set<String> hidden = new TreeSet<>();
         for (Field field : desk.getDeclaredFields()) {
+            staticFieldIsAConstant(field);
             String type = Modifier.toString(field.getModifiers()) + " " + field.getType();
             put(field, type + " " + field.getName(), face, hidden);
         }
@@ -35,6 +40,22 @@ public final class FaceTest {
         Due.is("private members with a public method's name", hidden, Set.of());
         wordsKeptOut();
         Due.end();
+    }
+
+    private static void classesInside(Class<?> desk) {
+        for (Class<?> inside : desk.getDeclaredClasses()) {
+            int modifiers = inside.getModifiers();
+            boolean hidden = !Modifier.isPublic(modifiers) && !Modifier.isProtected(modifiers);
+            Due.is(inside + " is static, and not public or protected", hidden && Modifier.isStatic(modifiers), true);
+        }
+    }
+
+    /** LANGUAGE.md, rule 5, but for the arrays, of which this class needs none. */
+    private static void staticFieldIsAConstant(Field field) {
+        if (Modifier.isStatic(field.getModifiers())) {
+            Due.is(field + " is final", Modifier.isFinal(field.getModifiers()), true);
+            Due.is(field + " is an int", field.getType(), int.class);
+        }
     }
 
     private static void put(Member member, String text, Set<String> face, Set<String> hidden) {

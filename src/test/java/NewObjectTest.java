@@ -17,6 +17,7 @@ public final class NewObjectTest {
         Due.is("run()", desk.run(), 0);
         asItsOperationsTell();
         objectsAreApart();
+        twoAtATime();
         Due.end();
     }
 
@@ -42,5 +43,27 @@ public final class NewObjectTest {
         }
         Due.is("another's state(5)", other.state(5), -2);
         Due.results("another", other);
+    }
+
+    /** The calls of two objects by turns: each answers as if it were alone. */
+    private static void twoAtATime() {
+        MonitorDesk one = new MonitorDesk();
+        MonitorDesk other = new MonitorDesk();
+        one.hold(0, -2);
+        other.hold(1, -2);
+        int[] ones = Due.program(2, 0, 1, 0, 15, 5, 11, 7, 0, 0, 0, 0);
+        int[] others = Due.program(1, 1, 7, 0, 2, 3, 12, 2, 0, 0, 0, 0);
+        for (int i = 0; i < ones.length; i += 2) {
+            Due.steps(one, ones[i], ones[i + 1]);
+            Due.steps(other, others[i], others[i + 1]);
+        }
+        Due.is("one's run()", one.run(), 4);
+        Due.is("the other's run()", other.run(), 6);
+        Due.results("one", one, 107, 1, 5, -893);
+        Due.results("the other", other, 1, 0, 0, 0, 0, 0);
+        Due.is("one's FLAG", one.state(3), 0);
+        Due.is("the other's FLAG", other.state(3), 1);
+        Due.is("one's TOTAL", one.state(2), 5);
+        Due.is("the other's TOTAL", other.state(2), 3);
     }
 }

@@ -12,6 +12,7 @@ public final class OperationsTest {
         starting();
         threadsModulo4();
         adding();
+        lookingAtNothingElse();
         Due.end();
     }
 
@@ -140,5 +141,41 @@ public final class OperationsTest {
         desk.clear();
         Due.runs("START wraps", desk, Due.program(15, Due.MAX - 1, 12, 1), 2, 0, Due.MAX, 0);
         Due.is("TOTAL", desk.state(2), Due.MIN + 1);
+    }
+
+    /** Each operation looks at what its own line names: here with all locks held, with and without the FLAG. */
+    private static void lookingAtNothingElse() {
+        // Operation, argument, result; the FLAG behind it is as before, and a block is closed at once.
+        int[][] flagIsAsBefore = {{1, 3, 2}, {2, 0, 0}, {3, 1, 0}, {4, 2, 0}, {5, 4, 1}, {12, 2, 0}, {13, 2, 0},
+            {13, 3, 1}, {14, 2, 0}, {14, 3, 1}, {15, 9, 13}};
+        for (int[] row : flagIsAsBefore) {
+            withAllLocksHeld(row[0], row[1], 0, row[2], 0);
+            withAllLocksHeld(row[0], row[1], 1, row[2], 1);
+        }
+        withAllLocksHeld(6, 3, 0, -2, 0);
+        withAllLocksHeld(7, 0, 0, 0, 1);
+        withAllLocksHeld(7, 0, 1, 0, 1);
+        withAllLocksHeld(8, 0, 0, 0, 0);
+        withAllLocksHeld(8, 0, 1, 1, 0);
+        withAllLocksHeld(9, 0, 0, 0, 0);
+        withAllLocksHeld(9, 0, 1, 1, 1);
+        withAllLocksHeld(10, 8, 0, 0, 0);
+    }
+
+    /** Thread 3 is ENDED and TOTAL is 4 before; the locks that were held are held behind the operation too. */
+    private static void withAllLocksHeld(int operation, int argument, int flag, int result, int flagBehind) {
+        String what = "operation " + operation + " of " + argument + (flag == 1 ? " with the FLAG" : "");
+        MonitorDesk desk = Due.withLocks(0, 1, 2, 3, 4);
+        Due.steps(desk, 12, 3, flag == 1 ? 7 : 8, 0);
+        Due.is("run()", desk.run(), 2);
+        desk.clear();
+        boolean opens = operation <= 2;
+        Due.runs(what, desk,
+            Due.joined(Due.program(1, 0, 1, 1, 1, 2, 1, 3, 1, 4, operation, argument, opens ? 0 : 9, 0),
+                Due.program(5, 0, 5, 1, 5, 2, 5, 3, 5, 4), Due.times(5, 0, 0)),
+            17, 0, 1, 1, 1, 1, 1, result, opens ? operation % 2 : flagBehind, 1, 1, 1, 1, 1, 0, 0, 0, 0, 0);
+        Due.is(what + ": the FLAG", desk.state(3), flagBehind);
+        Due.is(what + ": TOTAL", desk.state(2), operation == 12 ? 7 : operation == 15 ? 13 : 4);
+        Due.is(what + ": threads", desk.state(4), operation == 12 ? 2 : 1);
     }
 }
